@@ -13,7 +13,7 @@ import java.util.TreeSet;
 
 /** Runs of calls by chance, whose answers are compared with those of a slow model of the document. */
 public final class ModelTest {
-  private static final int RUNS = 240;
+  private static final int RUNS = 120;
   private static final int CALLS = 512;
   private static final Map<String, Method> HOUSE = methods(SlabHouse.class);
   private static final Map<String, Method> MODEL = methods(Model.class);
@@ -70,7 +70,7 @@ public final class ModelTest {
     void go() {
       for (int i = 0; i < CALLS && wrong < 20; i++) {
         step();
-        if (i % 64 == 63 || number % 80 == 0) {
+        if (i % 64 == 63 || number % 40 == 0) {
           compareAll();
         }
       }
