@@ -511,7 +511,7 @@ public final class SlabHouse {
 
         /** The one that came last; null without any. */
         Magazine takeFromDepot() {
-            if (inDepot == 0) {
+            if (inDepot <= 0) {
                 return null;
             }
             inDepot--;
@@ -548,7 +548,7 @@ public final class SlabHouse {
         }
 
         int takeLast() {
-            if (count == 0) {
+            if (count <= 0) {
                 return NONE;
             }
             count--;
