@@ -464,11 +464,14 @@ public final class SlabHouse {
             }
         }
 
-        /** Every change counts, one that leaves the slab in the list it stands in too. */
+        /** A slab that is of the same kind still has not changed: it keeps its place. */
         void relist(Slab slab) {
-            unlist(slab);
-            slab.listed = slab.kind();
-            lists[slab.listed].putFirst(slab);
+            int kind = slab.kind();
+            if (slab.listed != kind) {
+                unlist(slab);
+                slab.listed = kind;
+                lists[kind].putFirst(slab);
+            }
         }
 
         void unlist(Slab slab) {

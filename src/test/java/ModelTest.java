@@ -287,10 +287,14 @@ public final class ModelTest {
       }
 
       void change(Slab slab) {
+        LinkedList<Slab> now = lists.get(slab.row.isEmpty() ? 0 : slab.row.size() == objects ? 2 : 1);
+        if (now.contains(slab)) {
+          return;
+        }
         for (LinkedList<Slab> list : lists) {
           list.remove(slab);
         }
-        lists.get(slab.row.isEmpty() ? 0 : slab.row.size() == objects ? 2 : 1).addFirst(slab);
+        now.addFirst(slab);
       }
     }
 

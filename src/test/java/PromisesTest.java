@@ -36,6 +36,7 @@ public final class PromisesTest {
     objectOf();
     about();
     list();
+    partialKeepsItsPlace();
     slab();
     magazine();
     block();
@@ -496,11 +497,11 @@ public final class PromisesTest {
     due(0, "free", 256, 2);
     due(1, "magazine", 0, 2, 0);
     due(5, "flush", 2);
+    due(1024, "allocate", 0, 0);
+    due(1280, "allocate", 0, 0);
     due(0, "allocate", 0, 0);
     due(512, "allocate", 0, 0);
     due(256, "allocate", 0, 0);
-    due(1024, "allocate", 0, 0);
-    due(1280, "allocate", 0, 0);
     part = "7 flush: the depot stays as it is";
     freeFours(0, 6, 3);
     due(256 * 8, "allocate", 0, 1);
@@ -709,24 +710,28 @@ public final class PromisesTest {
     due(3072, "list", 0, 1, 2);
     due(2048, "list", 0, 0, 0);
     due(NONE, "list", 0, 0, 1);
-    part = "13 list: one that stays partial has changed too";
+    part = "13 list: one that stays partial keeps its place";
     due(0, "free", 256, 0);
     due(1, "flush", 0);
-    due(0, "list", 0, 1, 0);
-    due(1024, "list", 0, 1, 1);
+    due(1024, "list", 0, 1, 0);
+    due(0, "list", 0, 1, 1);
     due(3072, "list", 0, 1, 2);
+    due(1024, "allocate", 0, 0);
+    due(1024, "list", 0, 0, 0);
+    due(2048, "list", 0, 0, 1);
     due(256, "allocate", 0, 0);
+    due(0, "list", 0, 1, 0);
     part = "13 list: a mark and a magazine leave the slab as it is";
     due(0, "free", 256 * 12, 0);
-    due(5, "mark", 256 * 6, 5);
+    due(5, "mark", 256 * 12 - 256, 5);
     due(0, "list", 0, 1, 0);
-    due(1024, "list", 0, 1, 1);
-    due(3072, "list", 0, 1, 2);
+    due(3072, "list", 0, 1, 1);
+    due(NONE, "list", 0, 1, 2);
     part = "13 list: empty ones";
     due(1, "flush", 0);
     due(3072, "list", 0, 2, 0);
-    freeFours(1, 4, 0);
-    due(3, "flush", 0);
+    freeFours(1, 5, 0);
+    due(4, "flush", 0);
     due(0, "list", 0, 2, 0);
     due(3072, "list", 0, 2, 1);
     due(1024, "list", 0, 1, 0);
@@ -748,6 +753,62 @@ public final class PromisesTest {
     due(4096, "allocate", 1, 0);
     due(4096, "list", 1, 0, 0);
     due(NONE, "list", 1, 1, 0);
+  }
+
+  /** The whole list of the partial ones; NONE behind its end. */
+  private static void duePartial(int first, int second, int third) {
+    due(first, "list", 0, 1, 0);
+    due(second, "list", 0, 1, 1);
+    due(third, "list", 0, 1, 2);
+    due(NONE, "list", 0, 1, 3);
+  }
+
+  private static void partialKeepsItsPlace() {
+    beginWithFours("13 list: an object comes back by flush");
+    allocateFours(0, 21);
+    freeFours(1, 2, 0);
+    freeFours(4, 5, 0);
+    freeFours(0, 1, 0);
+    due(3, "flush", 0);
+    duePartial(1024, 0, 5120);
+    due(1, "slab", 0, 3);
+    due(2, "slab", 0, 2);
+    due(1024, "allocate", 0, 0);
+    due(256, "allocate", 0, 0);
+    due(0, "allocate", 0, 0);
+    due(5376, "allocate", 0, 0);
+
+    beginWithFours("13 list: an object comes back by empty");
+    allocateFours(0, 21);
+    freeFours(1, 2, 0);
+    freeFours(4, 5, 0);
+    freeFours(2, 3, 0);
+    freeFours(0, 1, 0);
+    freeFours(8, 13, 0);
+    due(1, "magazine", 0, 0, 2);
+    due(4, "empty", 0);
+    duePartial(1024, 0, 5120);
+    due(1, "slab", 0, 3);
+    due(1, "slab", 0, 2);
+    due(1024, "allocate", 0, 1);
+    due(256, "allocate", 0, 1);
+
+    beginWithFours("13 list: an object comes back by free, as all magazines are full");
+    allocateFours(0, 33);
+    freeFours(8, 28, 0);
+    due(3, "magazine", 0, 0, 2);
+    freeFours(0, 1, 0);
+    duePartial(0, 8192, NONE);
+    freeFours(4, 5, 0);
+    duePartial(1024, 0, 8192);
+    freeFours(1, 3, 0);
+    duePartial(1024, 0, 8192);
+    part = "13 list: it leaves its place when it is empty, and comes first";
+    freeFours(32, 33, 0);
+    freeFours(3, 4, 0);
+    duePartial(1024, NONE, NONE);
+    due(0, "list", 0, 2, 0);
+    due(8192, "list", 0, 2, 1);
   }
 
   private static void dueSlab(int address, int... facts) {
