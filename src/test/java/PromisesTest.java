@@ -1,20 +1,5 @@
-import java.lang.reflect.InvocationTargetException;
-import java.lang.reflect.Method;
-import java.util.Arrays;
-
 /** Each promise by hand: ordinary inputs, the edges that the document names, and wrong inputs. */
-public final class PromisesTest {
-  private static final int NONE = SlabHouse.NONE;
-  private static final int LEAST = Integer.MIN_VALUE;
-  private static final int MOST = Integer.MAX_VALUE;
-  private static final String NO_SUCH = "throws.NoSuchElementException";
-  private static final String ARGUMENT = "throws.IllegalArgumentException";
-  private static final String STATE = "throws.IllegalStateException";
-
-  private static int wrong = 0;
-  private static String part = "";
-  private static SlabHouse x;
-
+public final class PromisesTest extends HouseTest {
   public static void main(String[] args) {
     newObject();
     cacheNumbersAndShapes();
@@ -42,42 +27,7 @@ public final class PromisesTest {
     block();
     pages();
     throwingChangesNothing();
-    System.out.println(wrong == 0 ? "all answers are as due" : wrong + " answers are not as due");
-    if (wrong != 0) {
-      System.exit(1);
-    }
-  }
-
-  private static void begin(String name) {
-    part = name;
-    x = new SlabHouse();
-  }
-
-  private static void due(int want, String call, int... arguments) {
-    due(String.valueOf(want), call, arguments);
-  }
-
-  private static void due(String want, String call, int... arguments) {
-    String got = answer(call, arguments);
-    if (!got.equals(want)) {
-      wrong++;
-      System.out.println(part + ": " + call + Arrays.toString(arguments) + " answered " + got + ", due is " + want);
-    }
-  }
-
-  private static String answer(String call, int... arguments) {
-    for (Method method : SlabHouse.class.getMethods()) {
-      if (method.getName().equals(call) && method.getParameterCount() == arguments.length) {
-        try {
-          return String.valueOf(method.invoke(x, Arrays.stream(arguments).boxed().toArray()));
-        } catch (InvocationTargetException e) {
-          return "throws." + e.getCause().getClass().getSimpleName();
-        } catch (IllegalAccessException e) {
-          return e.toString();
-        }
-      }
-    }
-    return "no such call";
+    end();
   }
 
   /** A house with one cache of objects of 256 bytes, four in a slab of one page, and tag 5. */
@@ -115,14 +65,12 @@ public final class PromisesTest {
     }
     due(NONE, "cacheOf", 0);
     due(0, "reap");
-    SlabHouse first = x;
-    due(0, "cache", 8, 8, 0, 0);
-    due(0, "allocate", 0, 0);
     begin("1 new object: it shares nothing with another");
+    SlabHouse other = new SlabHouse();
+    other.cache(8, 8, 0, 0);
+    other.allocate(0, 0);
     due(256, "pages", 0);
     due(NO_SUCH, "allocate", 0, 0);
-    x = first;
-    due(255, "pages", 0);
   }
 
   private static void cacheNumbersAndShapes() {
@@ -137,7 +85,7 @@ public final class PromisesTest {
     due(7, "cache", 8, 8, 0, 0);
     due(NONE, "cache", 8, 8, 0, 0);
     due(0, "drop", 7);
-    part = "2 cache: a dropped one's number is never told again";
+    goOn("2 cache: a dropped one's number is never told again");
     due(NONE, "cache", 8, 8, 0, 0);
     due(ARGUMENT, "cache", 9, 8, 0, 0);
   }
@@ -200,7 +148,7 @@ public final class PromisesTest {
     due(1, "drop", 1);
     due(0, "drop", 2);
     due(192, "block", 6, 3);
-    part = "3 drop: with a full depot";
+    goOn("3 drop: with a full depot");
     due(3, "cache", 1024, 8, 0, 0);
     for (int i = 0; i < 24; i++) {
       due(1024 * i, "allocate", 3, 0);
@@ -261,7 +209,7 @@ public final class PromisesTest {
     due(1024, "list", 0, 1, 0);
     due(1024, "allocate", 0, 0);
     due(1280, "allocate", 0, 0);
-    part = "4 allocate: then the first empty slab, before a new one";
+    goOn("4 allocate: then the first empty slab, before a new one");
     due(0, "allocate", 0, 0);
     due(256, "allocate", 0, 0);
     due(3, "about", 0, 4);
@@ -273,10 +221,10 @@ public final class PromisesTest {
     freeFours(0, 3, 1);
     due(512, "allocate", 0, 1);
     due(256, "allocate", 0, 1);
-    part = "4 allocate: magazines are a processor's own";
+    goOn("4 allocate: magazines are a processor's own");
     due(256 * 28, "allocate", 0, 2);
     due(0, "allocate", 0, 1);
-    part = "4 allocate: loaded, then previous, then the depot";
+    goOn("4 allocate: loaded, then previous, then the depot");
     freeFours(0, 14, 0);
     due(2, "magazine", 0, 0, 0);
     due(4, "magazine", 0, 0, 1);
@@ -288,14 +236,14 @@ public final class PromisesTest {
     due(256 * 11, "allocate", 0, 0);
     due(3, "magazine", 0, 0, 0);
     due(0, "magazine", 0, 0, 1);
-    part = "4 allocate: another processor takes from the depot, the last one first";
+    goOn("4 allocate: another processor takes from the depot, the last one first");
     due(256 * 7, "allocate", 0, 3);
     due(3, "magazine", 0, 3, 0);
     due(1, "magazine", 0, 3, 2);
-    part = "4 allocate: of the cache's own magazines";
+    goOn("4 allocate: of the cache's own magazines");
     due(1, "cache", 8, 8, 0, 0);
     due(8192, "allocate", 1, 0);
-    part = "4 allocate: what it refuses";
+    goOn("4 allocate: what it refuses");
     for (int cache : new int[] {LEAST, -1, 2, 7, 8, MOST}) {
       due(NO_SUCH, "allocate", cache, 0);
       due(NO_SUCH, "allocate", cache, 4);
@@ -321,7 +269,7 @@ public final class PromisesTest {
     due(0, "about", 1, 3);
     due(0, "about", 1, 4);
     due(0, "about", 1, 5);
-    part = "4 allocate: what other magazines have is not to be had";
+    goOn("4 allocate: what other magazines have is not to be had");
     due(0, "free", 0, 0);
     due(NONE, "allocate", 0, 1);
     due(0, "allocate", 0, 0);
@@ -350,7 +298,7 @@ public final class PromisesTest {
     due(1, "about", 1, 7);
     due(8, "block", 2, 0);
     due(36, "block", 2, 1);
-    part = "4 allocate: a slab of its own comes before a new one";
+    goOn("4 allocate: a slab of its own comes before a new one");
     due(4096 * 2, "allocate", 0, 0);
     due(4096 * 9, "allocate", 0, 0);
     due(0, "pages", 0);
@@ -375,19 +323,19 @@ public final class PromisesTest {
     due(1, "magazine", 0, 2, 0);
     due(4, "magazine", 0, 2, 1);
     due(1, "magazine", 0, 2, 2);
-    part = "5 free: previous is not full, so they change places";
+    goOn("5 free: previous is not full, so they change places");
     due(2048, "allocate", 0, 2);
     due(1792, "allocate", 0, 2);
     freeFours(7, 9, 2);
     due(1, "magazine", 0, 2, 0);
     due(4, "magazine", 0, 2, 1);
     due(1, "magazine", 0, 2, 2);
-    part = "5 free: previous goes to the depot, so its objects are not the processor's";
+    goOn("5 free: previous goes to the depot, so its objects are not the processor's");
     due(2048, "allocate", 0, 2);
     due(1792, "allocate", 0, 2);
     due(768, "allocate", 0, 1);
     due(0, "magazine", 0, 0, 2);
-    part = "5 free: they stay out of the slab's free ones";
+    goOn("5 free: they stay out of the slab's free ones");
     due(4, "slab", 0, 2);
     due(NONE, "slab", 0, 3);
   }
@@ -404,11 +352,11 @@ public final class PromisesTest {
     due(1, "slab", 5120, 3);
     due(2, "slab", 5120, 2);
     due(5120, "list", 0, 1, 0);
-    part = "5 free: another processor has magazines of its own";
+    goOn("5 free: another processor has magazines of its own");
     freeFours(22, 23, 1);
     due(1, "magazine", 0, 1, 0);
     due(2, "slab", 5120, 2);
-    part = "5 free: the one that came back is first";
+    goOn("5 free: the one that came back is first");
     due(5632, "allocate", 0, 1);
     for (int i = 11; i >= 8; i--) {
       due(256 * i, "allocate", 0, 1);
@@ -434,7 +382,7 @@ public final class PromisesTest {
     due(NO_SUCH, "free", 0, 0);
     due(1, "flush", 0);
     due(NO_SUCH, "free", 0, 0);
-    part = "5 free: spare bytes before the first object";
+    goOn("5 free: spare bytes before the first object");
     due(1, "cache", 1000, 8, 0, 0);
     due(1024, "allocate", 1, 0);
     due(2056, "allocate", 1, 0);
@@ -457,7 +405,7 @@ public final class PromisesTest {
     }
     due(0, "free", 256, 0);
     due(NO_SUCH, "mark", 256, 5);
-    part = "6 mark: an object keeps its tag";
+    goOn("6 mark: an object keeps its tag");
     due(256, "allocate", 0, 0);
     due(5, "mark", 256, 5);
     due(0, "free", 256, 0);
@@ -483,7 +431,7 @@ public final class PromisesTest {
     due(1, "magazine", 1, 1, 0);
     due(0, "about", 0, 6);
     due(0, "slab", 2048, 3);
-    part = "7 flush: loaded first, what came last first";
+    goOn("7 flush: loaded first, what came last first");
     due(0, "slab", 0, 3);
     due(0, "slab", 1024, 3);
     due(0, "list", 0, 2, 0);
@@ -502,13 +450,13 @@ public final class PromisesTest {
     due(0, "allocate", 0, 0);
     due(512, "allocate", 0, 0);
     due(256, "allocate", 0, 0);
-    part = "7 flush: the depot stays as it is";
+    goOn("7 flush: the depot stays as it is");
     freeFours(0, 6, 3);
     due(256 * 8, "allocate", 0, 1);
     freeFours(6, 9, 3);
     due(5, "flush", 3);
     due(1, "magazine", 0, 3, 2);
-    part = "7 flush: what it refuses";
+    goOn("7 flush: what it refuses");
     for (int processor : new int[] {LEAST, -1, 4, MOST}) {
       due(ARGUMENT, "flush", processor);
     }
@@ -525,13 +473,13 @@ public final class PromisesTest {
     due(4, "magazine", 0, 0, 0);
     due(4, "magazine", 0, 0, 1);
     due(8, "about", 0, 6);
-    part = "8 empty: the one that came last first, so its slab is last of the list";
+    goOn("8 empty: the one that came last first, so its slab is last of the list");
     due(0, "list", 0, 2, 0);
     due(1024, "list", 0, 2, 1);
     due(2048, "list", 0, 2, 2);
     due(NONE, "list", 0, 2, 3);
     due(0, "empty", 0);
-    part = "8 empty: what came last first, so the slab's row begins with what came first";
+    goOn("8 empty: what came last first, so the slab's row begins with what came first");
     due(1, "cache", 8, 8, 0, 0);
     for (int i = 0; i < 9; i++) {
       due(5120 + 8 * i, "allocate", 1, 1);
@@ -543,7 +491,7 @@ public final class PromisesTest {
     for (int i : new int[] {3, 1, 2, 0, 9}) {
       due(5120 + 8 * i, "allocate", 1, 0);
     }
-    part = "8 empty: what it refuses";
+    goOn("8 empty: what it refuses");
     for (int cache : new int[] {LEAST, -1, 2, 7, 8, MOST}) {
       due(NO_SUCH, "empty", cache);
     }
@@ -575,13 +523,13 @@ public final class PromisesTest {
     due(0, "cacheOf", 1024);
     due(NONE, "cacheOf", 8192 + 4096);
     due(0, "reap");
-    part = "9 reap: a slab made behind it is new";
+    goOn("9 reap: a slab made behind it is new");
     due(1024, "allocate", 0, 0);
     due(2560, "allocate", 0, 0);
     due(0, "allocate", 0, 2);
     due(512, "allocate", 0, 2);
     due(3072, "allocate", 0, 2);
-    part = "9 reap: the colour goes on";
+    goOn("9 reap: the colour goes on");
     due(2, "cache", 1000, 8, 0, 0);
     due(4096, "allocate", 2, 0);
     due(2, "free", 4096, 0);
@@ -630,12 +578,12 @@ public final class PromisesTest {
     due(384, "objectOf", 711);
     due(NONE, "objectOf", 712);
     due(NONE, "objectOf", 1023);
-    part = "11 objectOf: spare bytes before the first object";
+    goOn("11 objectOf: spare bytes before the first object");
     due(NONE, "objectOf", 1024);
     due(NONE, "objectOf", 1087);
     due(1088, "objectOf", 1088);
     due(1088, "objectOf", 1415);
-    part = "11 objectOf: one that is not live";
+    goOn("11 objectOf: one that is not live");
     due(NONE, "objectOf", 1472);
     due(0, "free", 384, 0);
     due(NONE, "objectOf", 384);
@@ -644,12 +592,6 @@ public final class PromisesTest {
     due(0, "objectOf", 10);
     for (int address : new int[] {LEAST, -1, 2048, 262143, 262144, MOST}) {
       due(NONE, "objectOf", address);
-    }
-  }
-
-  private static void dueAbout(int cache, int... facts) {
-    for (int what = 0; what < facts.length; what++) {
-      due(facts[what], "about", cache, what);
     }
   }
 
@@ -678,7 +620,7 @@ public final class PromisesTest {
     dueAbout(0, 384, 2, 5, 1, 6, 1, 4, 0);
     due(3, "reap");
     dueAbout(0, 384, 2, 5, 1, 3, 1, 4, 0);
-    part = "12 about: what it refuses";
+    goOn("12 about: what it refuses");
     for (int what : new int[] {LEAST, -1, 8, MOST}) {
       due(ARGUMENT, "about", 0, what);
       due(NO_SUCH, "about", 5, what);
@@ -701,7 +643,7 @@ public final class PromisesTest {
     due(3072, "list", 0, 1, 0);
     due(NONE, "list", 0, 1, 1);
     due(NONE, "list", 0, 2, 0);
-    part = "13 list: a slab that changes comes first";
+    goOn("13 list: a slab that changes comes first");
     due(0, "free", 1024, 0);
     due(0, "free", 0, 0);
     due(2, "flush", 0);
@@ -710,7 +652,7 @@ public final class PromisesTest {
     due(3072, "list", 0, 1, 2);
     due(2048, "list", 0, 0, 0);
     due(NONE, "list", 0, 0, 1);
-    part = "13 list: one that stays partial keeps its place";
+    goOn("13 list: one that stays partial keeps its place");
     due(0, "free", 256, 0);
     due(1, "flush", 0);
     due(1024, "list", 0, 1, 0);
@@ -721,13 +663,13 @@ public final class PromisesTest {
     due(2048, "list", 0, 0, 1);
     due(256, "allocate", 0, 0);
     due(0, "list", 0, 1, 0);
-    part = "13 list: a mark and a magazine leave the slab as it is";
+    goOn("13 list: a mark and a magazine leave the slab as it is");
     due(0, "free", 256 * 12, 0);
     due(5, "mark", 256 * 12 - 256, 5);
     due(0, "list", 0, 1, 0);
     due(3072, "list", 0, 1, 1);
     due(NONE, "list", 0, 1, 2);
-    part = "13 list: empty ones";
+    goOn("13 list: empty ones");
     due(1, "flush", 0);
     due(3072, "list", 0, 2, 0);
     freeFours(1, 5, 0);
@@ -736,11 +678,11 @@ public final class PromisesTest {
     due(3072, "list", 0, 2, 1);
     due(1024, "list", 0, 1, 0);
     due(NONE, "list", 0, 1, 1);
-    part = "13 list: there is none such";
+    goOn("13 list: there is none such");
     for (int k : new int[] {LEAST, -1, 2, 256, MOST}) {
       due(NONE, "list", 0, 2, k);
     }
-    part = "13 list: what it refuses";
+    goOn("13 list: what it refuses");
     for (int which : new int[] {LEAST, -1, 3, MOST}) {
       due(ARGUMENT, "list", 0, which, 0);
       due(NO_SUCH, "list", 1, which, 0);
@@ -748,7 +690,7 @@ public final class PromisesTest {
     for (int cache : new int[] {LEAST, -1, 1, 7, 8, MOST}) {
       due(NO_SUCH, "list", cache, 0, 0);
     }
-    part = "13 list: a slab of one object is full at once";
+    goOn("13 list: a slab of one object is full at once");
     due(1, "cache", 1024, 8, 0, 0);
     due(4096, "allocate", 1, 0);
     due(4096, "list", 1, 0, 0);
@@ -803,18 +745,12 @@ public final class PromisesTest {
     duePartial(1024, 0, 8192);
     freeFours(1, 3, 0);
     duePartial(1024, 0, 8192);
-    part = "13 list: it leaves its place when it is empty, and comes first";
+    goOn("13 list: it leaves its place when it is empty, and comes first");
     freeFours(32, 33, 0);
     freeFours(3, 4, 0);
     duePartial(1024, NONE, NONE);
     due(0, "list", 0, 2, 0);
     due(8192, "list", 0, 2, 1);
-  }
-
-  private static void dueSlab(int address, int... facts) {
-    for (int what = 0; what < facts.length; what++) {
-      due(facts[what], "slab", address, what);
-    }
   }
 
   private static void slab() {
@@ -827,17 +763,17 @@ public final class PromisesTest {
     dueSlab(1024, 0, 0, 2, NONE);
     due(2056, "allocate", 0, 0);
     dueSlab(2048, 2048, 1, 1, 1);
-    part = "14 slab: one in a magazine is not free";
+    goOn("14 slab: one in a magazine is not free");
     due(0, "free", 0, 0);
     due(0, "free", 1000, 0);
     dueSlab(5, 0, 0, 2, NONE);
-    part = "14 slab: the one that came back is first";
+    goOn("14 slab: the one that came back is first");
     due(2, "flush", 0);
     dueSlab(5, 0, 0, 0, 0);
     due(3056, "allocate", 0, 0);
     due(0, "allocate", 0, 0);
     dueSlab(5, 0, 0, 1, 1);
-    part = "14 slab: what it refuses";
+    goOn("14 slab: what it refuses");
     for (int what : new int[] {LEAST, -1, 4, MOST}) {
       due(ARGUMENT, "slab", 0, what);
       due(NO_SUCH, "slab", 4096, what);
@@ -862,7 +798,7 @@ public final class PromisesTest {
     freeFours(11, 13, 3);
     due(2, "magazine", 0, 3, 0);
     due(0, "magazine", 0, 3, 1);
-    part = "15 magazine: the depot is the cache's, for all processors";
+    goOn("15 magazine: the depot is the cache's, for all processors");
     due(1, "magazine", 0, 3, 2);
     freeFours(13, 24, 3);
     due(1, "magazine", 0, 3, 0);
@@ -872,7 +808,7 @@ public final class PromisesTest {
     due(1, "cache", 8, 8, 0, 0);
     due(0, "magazine", 1, 3, 0);
     due(0, "magazine", 1, 3, 2);
-    part = "15 magazine: what it refuses";
+    goOn("15 magazine: what it refuses");
     for (int other : new int[] {LEAST, -1, 4, MOST}) {
       due(ARGUMENT, "magazine", 0, other, 0);
       due(ARGUMENT, "magazine", 0, other, 2);
@@ -883,13 +819,6 @@ public final class PromisesTest {
     due(ARGUMENT, "magazine", 0, 0, 3);
     due(NO_SUCH, "magazine", 2, 0, 0);
     due(NO_SUCH, "magazine", 8, 0, 0);
-  }
-
-  private static void dueBlocks(int order, int... pages) {
-    for (int k = 0; k < pages.length; k++) {
-      due(pages[k], "block", order, k);
-    }
-    due(NONE, "block", order, pages.length);
   }
 
   private static void block() {
@@ -906,7 +835,7 @@ public final class PromisesTest {
     dueBlocks(0);
     dueBlocks(2);
     dueBlocks(3, 8);
-    part = "16 block: halves that are free are one again, and only halves of one block";
+    goOn("16 block: halves that are free are one again, and only halves of one block");
     for (int page : new int[] {1, 2, 5}) {
       due(0, "free", 1024 * page, 0);
     }
@@ -934,13 +863,13 @@ public final class PromisesTest {
     for (int order = 0; order < 6; order++) {
       dueBlocks(order);
     }
-    part = "16 block: order 6 is the greatest";
+    goOn("16 block: order 6 is the greatest");
     dueBlocks(6, 0, 64, 128, 192);
     for (int k : new int[] {LEAST, -1, 256, MOST}) {
       due(NONE, "block", 6, k);
       due(NONE, "block", 0, k);
     }
-    part = "16 block: what it refuses";
+    goOn("16 block: what it refuses");
     for (int order : new int[] {LEAST, -1, 7, 32, MOST}) {
       due(ARGUMENT, "block", order, 0);
       due(ARGUMENT, "block", order, -1);
