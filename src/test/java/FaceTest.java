@@ -45,6 +45,7 @@ public final class FaceTest {
     check(Modifier.toString(SlabHouse.class.getModifiers()).equals("public final"), "the class is not public final");
     compareFace();
     checkNestedClasses();
+    checkLimits();
     String source = Files.readString(Path.of("src/main/java/SlabHouse.java"));
     for (String word : RULED_OUT) {
       check(!source.contains(word), "the file has '" + word + "'");
@@ -87,13 +88,37 @@ public final class FaceTest {
     }
   }
 
-  private static void checkNestedClasses() {
+  private static void checkLimits() {
+    TreeSet<String> publicNames = publicNames();
+    for (Method method : SlabHouse.class.getDeclaredMethods()) {
+      boolean hidden = Modifier.isPrivate(method.getModifiers());
+      check(!hidden || !publicNames.contains(method.getName()), method + " bears the name of a public one");
+    }
+    List<Class<?>> all = new ArrayList<>(Arrays.asList(SlabHouse.class.getDeclaredClasses()));
+    all.add(SlabHouse.class);
+    for (Class<?> type : all) {
+      for (Field field : type.getDeclaredFields()) {
+        boolean changes = Modifier.isStatic(field.getModifiers()) && !Modifier.isFinal(field.getModifiers());
+        check(!changes, field + " is static and not final");
+      }
+      for (Method method : type.getDeclaredMethods()) {
+        check(method.getParameterCount() <= 7, method + " takes more than seven parameters");
+      }
+    }
+  }
+
+  private static TreeSet<String> publicNames() {
     TreeSet<String> names = new TreeSet<>();
-    for (Method method : SlabHouse.class.getMethods()) {
-      if (method.getDeclaringClass() == SlabHouse.class) {
+    for (Method method : SlabHouse.class.getDeclaredMethods()) {
+      if (Modifier.isPublic(method.getModifiers())) {
         names.add(method.getName());
       }
     }
+    return names;
+  }
+
+  private static void checkNestedClasses() {
+    TreeSet<String> names = publicNames();
     Class<?>[] nested = SlabHouse.class.getDeclaredClasses();
     check(nested.length < 12, "more than some twelve classes");
     for (Class<?> type : nested) {
